@@ -1,0 +1,151 @@
+import java.util.NoSuchElementException;
+import java.util.zip.CRC32;
+
+/** Compares answers with those that are due, and ends a test with exit code 1 if one was wrong. */
+final class Check {
+    static final Class<?> ARGUMENT = IllegalArgumentException.class;
+    static final Class<?> STATE = IllegalStateException.class;
+    static final Class<?> NONE = NoSuchElementException.class;
+    static final Class<?> UNSUPPORTED = UnsupportedOperationException.class;
+
+    interface Call {
+        Object run();
+    }
+
+    interface Act {
+        void run();
+    }
+
+    private int wrong;
+    private int looked;
+
+    void is(String call, long got, long due) {
+        looked++;
+        if (got != due) {
+            wrong++;
+            System.out.println(call + " answered " + got + ", due is " + due);
+        }
+    }
+
+    void is(String call, boolean got, boolean due) {
+        is(call, got ? 1 : 0, due ? 1 : 0);
+    }
+
+    void refuses(Class<?> due, String call, Call body) {
+        looked++;
+        try {
+            Object got = body.run();
+            wrong++;
+            System.out.println(call + " answered " + got + ", due is throws." + due.getSimpleName());
+        } catch (RuntimeException e) {
+            if (e.getClass() != due) {
+                wrong++;
+                System.out.println(call + " threw " + e + ", due is throws." + due.getSimpleName());
+            }
+        }
+    }
+
+    void refusesAct(Class<?> due, String call, Act body) {
+        refuses(due, call, () -> {
+            body.run();
+            return "nothing";
+        });
+    }
+
+    /** Compares all bytes of a file or of a hint. */
+    void bytes(String what, AppendStore x, int k, boolean hint, int... due) {
+        is(what + " size", x.file(k, hint ? 4 : 1), due.length);
+        for (int i = 0; i < Math.min(due.length, x.file(k, hint ? 4 : 1)); i++) {
+            is(what + " byte " + i, x.octet(k, i, hint), due[i]);
+        }
+    }
+
+    void end() {
+        System.out.println(wrong == 0 ? looked + " answers are as due" : wrong + " answers are not as due");
+        if (wrong != 0) {
+            System.exit(1);
+        }
+    }
+
+    static int[] join(int[]... parts) {
+        int size = 0;
+        for (int[] part : parts) {
+            size += part.length;
+        }
+        int[] all = new int[size];
+        int at = 0;
+        for (int[] part : parts) {
+            System.arraycopy(part, 0, all, at, part.length);
+            at += part.length;
+        }
+        return all;
+    }
+
+    static int[] row(int... bytes) {
+        return bytes;
+    }
+
+    static int[] sum(int... bytes) {
+        CRC32 crc = new CRC32();
+        for (int b : bytes) {
+            crc.update(b);
+        }
+        long v = crc.getValue();
+        return row((int) (v >>> 24), (int) (v >>> 16) & 255, (int) (v >>> 8) & 255, (int) v & 255);
+    }
+
+    /** A record: the sum in front of all that is behind it. */
+    static int[] summed(int... bytes) {
+        return join(sum(bytes), bytes);
+    }
+
+    /** A hint: the sum behind all that is in front of it. */
+    static int[] hint(int... bytes) {
+        return join(bytes, sum(bytes));
+    }
+
+    /** Puts keys of one byte with values of eight: 17 bytes each, five to a file. */
+    static void fill(AppendStore x, int firstKey, int count) {
+        for (int i = 0; i < count; i++) {
+            x.put(firstKey + i, 1, 1000L + firstKey + i, 8);
+        }
+    }
+
+    /** A full store: six files of five records, the keys 0 to 29. */
+    static AppendStore full() {
+        AppendStore x = new AppendStore();
+        fill(x, 0, 30);
+        return x;
+    }
+
+    /** Spoils a byte of a file at a place and mends the sum of the record there, so that it looks right. */
+    static void forge(AppendStore x, int k, int place, int size, int at, int bits) {
+        int[] before = new int[size - 4];
+        for (int i = 0; i < before.length; i++) {
+            before[i] = x.octet(k, place + 4 + i, false);
+        }
+        int[] after = before.clone();
+        after[at - 4] ^= bits;
+        x.spoil(k, place + at, false, bits);
+        mend(x, k, place, false, sum(before), sum(after));
+    }
+
+    /** Spoils a byte of a hint and mends the hint's sum. */
+    static void forgeHint(AppendStore x, int k, int at, int bits) {
+        int size = x.file(k, 4) - 4;
+        int[] before = new int[size];
+        for (int i = 0; i < size; i++) {
+            before[i] = x.octet(k, i, true);
+        }
+        int[] after = before.clone();
+        after[at] ^= bits;
+        x.spoil(k, at, true, bits);
+        mend(x, k, size, true, sum(before), sum(after));
+    }
+
+    private static void mend(AppendStore x, int k, int at, boolean hint, int[] before, int[] after) {
+        for (int i = 0; i < 4; i++) {
+            x.spoil(k, at + i, hint, before[i] ^ after[i]);
+        }
+    }
+}
