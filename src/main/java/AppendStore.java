@@ -69,13 +69,13 @@ public final class AppendStore {
         }
         switch (what) {
             case 0:
-                return Key.size(rec.rank());
+                return Key.size(rec.rank);
             case 1:
-                return Key.number(rec.rank());
+                return Key.number(rec.rank);
             case 2:
                 return rec.fileNumber();
             default:
-                return rec.place();
+                return rec.place;
         }
     }
 
@@ -284,7 +284,7 @@ public final class AppendStore {
         }
 
         int at(int i) {
-            return has(i) ? cells[i] & 255 : 0;
+            return i >= 0 && i < size ? cells[i] & 255 : 0;
         }
 
         void set(int i, int octet) {
@@ -348,36 +348,12 @@ public final class AppendStore {
 
     /** What the store knows of a record, whatever is spoilt in its bytes later. */
     private static final class Rec {
-        private StoreFile home;
-        private int place;
-        private long rank;
-        private int valueSize;
+        StoreFile home;
+        int place;
+        long rank;
+        int valueSize;
         /** In a merge's output: the record of which this one is a copy. */
-        private Rec source;
-
-        void become(StoreFile newHome, int newPlace, long newRank, int newValueSize, Rec newSource) {
-            home = newHome;
-            place = newPlace;
-            rank = newRank;
-            valueSize = newValueSize;
-            source = newSource;
-        }
-
-        int place() {
-            return place;
-        }
-
-        long rank() {
-            return rank;
-        }
-
-        int valueSize() {
-            return valueSize;
-        }
-
-        Rec source() {
-            return source;
-        }
+        Rec source;
 
         boolean isTombstone() {
             return valueSize == Layout.TOMBSTONE;
@@ -496,7 +472,7 @@ public final class AppendStore {
         void appendCopy(Rec source) {
             int place = bytes.size();
             source.addBytesTo(bytes);
-            note(place, source.rank(), source.valueSize(), source);
+            note(place, source.rank, source.valueSize, source);
         }
 
         boolean hasRightSum(int place, int size) {
@@ -507,9 +483,8 @@ public final class AppendStore {
         void publishAs(int newNumber) {
             number = newNumber;
             syncAll();
-            hint.cutTo(0);
             for (int i = 0; i < recordCount; i++) {
-                int place = records[i].place();
+                int place = records[i].place;
                 hint.addFrom(bytes, place + Layout.SUM, Layout.ENTRY_PLACE_AT);
                 hint.addByte(place);
                 hint.addFrom(bytes, place + Layout.HEAD, records[i].keySize());
@@ -596,7 +571,11 @@ public final class AppendStore {
                 recordCount++;
             }
             Rec rec = records[recordCount - 1];
-            rec.become(this, place, rank, valueSize, source);
+            rec.home = this;
+            rec.place = place;
+            rec.rank = rank;
+            rec.valueSize = valueSize;
+            rec.source = source;
             return rec;
         }
     }
@@ -625,16 +604,17 @@ public final class AppendStore {
 
         Rec find(long rank) {
             Rec rec = at(firstFrom(rank));
-            return rec != null && rec.rank() == rank ? rec : null;
+            return rec != null && rec.rank == rank ? rec : null;
         }
 
         boolean has(Rec rec) {
-            return find(rec.rank()) == rec;
+            return find(rec.rank) == rec;
         }
 
         void enter(Rec rec) {
-            int i = firstFrom(rec.rank());
-            boolean known = find(rec.rank()) != null;
+            int i = firstFrom(rec.rank);
+            Rec there = at(i);
+            boolean known = there != null && there.rank == rec.rank;
             if (rec.isTombstone()) {
                 if (known) {
                     takeOut(i);
@@ -655,7 +635,7 @@ public final class AppendStore {
 
         private int firstFrom(long rank) {
             int i = 0;
-            while (i < count && rows[i].rank() < rank) {
+            while (i < count && rows[i].rank < rank) {
                 i++;
             }
             return i;
@@ -841,7 +821,7 @@ public final class AppendStore {
             for (int i = 0; i < output.recordCount(); i++) {
                 Rec copy = output.record(i);
                 if (copy != null) {
-                    directory.replace(copy.source(), copy);
+                    directory.replace(copy.source, copy);
                 }
             }
         }

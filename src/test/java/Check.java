@@ -118,34 +118,22 @@ final class Check {
         return x;
     }
 
-    /** Spoils a byte of a file at a place and mends the sum of the record there, so that it looks right. */
-    static void forge(AppendStore x, int k, int place, int size, int at, int bits) {
-        int[] before = new int[size - 4];
-        for (int i = 0; i < before.length; i++) {
-            before[i] = x.octet(k, place + 4 + i, false);
+    /** Spoils the first bytes of a file or of a hint until they are the wanted ones. */
+    static void forge(AppendStore x, int k, boolean hint, int... wanted) {
+        for (int i = 0; i < wanted.length; i++) {
+            int bits = x.octet(k, i, hint) ^ wanted[i];
+            if (bits != 0) {
+                x.spoil(k, i, hint, bits);
+            }
         }
-        int[] after = before.clone();
-        after[at - 4] ^= bits;
-        x.spoil(k, place + at, false, bits);
-        mend(x, k, place, false, sum(before), sum(after));
     }
 
-    /** Spoils a byte of a hint and mends the hint's sum. */
-    static void forgeHint(AppendStore x, int k, int at, int bits) {
-        int size = x.file(k, 4) - 4;
-        int[] before = new int[size];
-        for (int i = 0; i < size; i++) {
-            before[i] = x.octet(k, i, true);
-        }
-        int[] after = before.clone();
-        after[at] ^= bits;
-        x.spoil(k, at, true, bits);
-        mend(x, k, size, true, sum(before), sum(after));
-    }
-
-    private static void mend(AppendStore x, int k, int at, boolean hint, int[] before, int[] after) {
-        for (int i = 0; i < 4; i++) {
-            x.spoil(k, at + i, hint, before[i] ^ after[i]);
+    /** Merges until it is published. */
+    static void mergeAll(AppendStore x) {
+        for (int i = 0; i < 10; i++) {
+            if (x.merge(20)) {
+                return;
+            }
         }
     }
 }

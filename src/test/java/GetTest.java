@@ -69,12 +69,14 @@ public final class GetTest {
     private static void forgedRecords(Check c) {
         AppendStore x = new AppendStore();
         x.put(1, 1, 77, 2);
-        Check.forge(x, 0, 0, 11, 10, 2);
+        Check.forge(x, 0, false, Check.summed(0, 0, 1, 2, 1, 0, 79));
         c.is("a value under a right sum", x.get(1, 1), 79);
-        Check.forge(x, 0, 0, 11, 7, 2 ^ 1);
+        Check.forge(x, 0, false, Check.summed(0, 0, 2, 1, 1, 0, 79));
         c.is("sizes are known from the appending", x.get(1, 1), 79);
-        Check.forge(x, 0, 0, 11, 8, 1 ^ 2);
-        c.is("so is the key", x.get(1, 1), 79);
+        Check.forge(x, 0, false, Check.summed(0, 0, 1, 255, 2, 3, 4));
+        c.is("so are the key and that it is no tombstone", x.get(1, 1), 0x0304);
         c.refuses(Check.NONE, "the key in the bytes", () -> x.get(2, 1));
+        Check.forge(x, 0, false, Check.summed(0, 0, 1, 1, 2, 3));
+        c.refuses(Check.UNSUPPORTED, "a sum that is right for another size", () -> x.get(1, 1));
     }
 }

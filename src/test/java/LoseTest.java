@@ -5,6 +5,7 @@ public final class LoseTest {
         syncing(c);
         losing(c);
         losingAll(c);
+        losingZeros(c);
         losingTwice(c);
         losingMerge(c);
         wrongCalls(c);
@@ -64,6 +65,17 @@ public final class LoseTest {
         c.is("a part of a record", x.file(2, 1), 9);
         c.is("open then", x.open(true), 5);
         c.is("it is cut off", x.file(2, 1), 0);
+    }
+
+    /** What was lost is not there, though the sum would be right with zeros in its place. */
+    private static void losingZeros(Check c) {
+        for (int more = 8; more <= 17; more++) {
+            AppendStore x = new AppendStore();
+            x.put(0, 1, 0, 8);
+            x.lose(more);
+            c.is("keys with " + more + " of 17", x.open(false), more == 17 ? 1 : 0);
+            c.is("bytes with " + more + " of 17", x.file(0, 1), more == 17 ? 17 : 0);
+        }
     }
 
     private static void losingTwice(Check c) {

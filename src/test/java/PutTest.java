@@ -8,6 +8,7 @@ public final class PutTest {
         sealing(c);
         full(c);
         numbers(c);
+        filesAfterMerges(c);
         c.end();
     }
 
@@ -92,9 +93,7 @@ public final class PutTest {
         c.is("the last file was active still", x.file(5, 1), 90);
         x.open(true);
         c.refusesAct(Check.UNSUPPORTED, "put with six sealed files", () -> x.put(0, 1, 5, 0));
-        while (!x.merge(20)) {
-            continue;
-        }
+        Check.mergeAll(x);
         c.refusesAct(Check.UNSUPPORTED, "put after a merge that saved nothing", () -> x.put(0, 1, 5, 0));
 
         AppendStore y = Check.full();
@@ -113,9 +112,7 @@ public final class PutTest {
         c.is("files()", x.files(), 4);
         x.open(false);
         c.is("files() with the tombstones", x.files(), 4);
-        while (!x.merge(20)) {
-            continue;
-        }
+        Check.mergeAll(x);
         c.is("nothing is left", x.files(), 0);
         x.put(1, 1, 1, 1);
         c.is("a number that never was", x.file(0, 0), 5);
@@ -126,5 +123,29 @@ public final class PutTest {
         c.is("with the lower number", x.file(0, 0), 5);
         x.put(3, 1, 1, 1);
         c.is("numbers that are gone do not come back", x.file(1, 0), 7);
+    }
+
+    /** A file that begins has nothing of one that is gone. */
+    private static void filesAfterMerges(Check c) {
+        AppendStore x = new AppendStore();
+        for (int round = 0; round < 8; round++) {
+            for (int i = 0; i < 20; i++) {
+                x.put(i % 7, 1, 100 * round + i, 8);
+            }
+            int last = x.files() - 1;
+            c.is("bytes of the active file", x.file(last, 1), 85);
+            c.is("synced of the active file", x.file(last, 2), 0);
+            c.is("hint of the active file", x.file(last, 4), 0);
+            c.is("number of the active file", x.file(last, 0), 4 * round + 4);
+            for (int k = 0; k <= last; k++) {
+                c.is("files are in order", k == 0 || x.file(k, 0) > x.file(k - 1, 0), true);
+            }
+            x.open(true);
+            Check.mergeAll(x);
+            c.is("merged to two", x.files(), 2);
+            for (int i = 0; i < 7; i++) {
+                c.is("get(" + i + ")", x.get(i, 1), 100 * round + i + (i < 6 ? 14 : 7));
+            }
+        }
     }
 }
