@@ -826,7 +826,7 @@ public final class AppendStore {
             }
         }
 
-        /** There are never more outputs than files taken: less records in the same order need no more. */
+        /** There are never more outputs than files taken: fewer records in the same order need no more. */
         private StoreFile outputFor(int size) {
             boolean fits = outputCount > 0 && outputs[outputCount - 1].bytes().hasRoomFor(size);
             if (!fits && outputCount < outputs.length) {

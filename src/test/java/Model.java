@@ -235,7 +235,8 @@ final class Model {
         int place = 0;
         while (place + 8 <= f.bytes.length()) {
             Known known = new Known(f, place, f.bytes.charAt(place + 6), f.bytes.charAt(place + 7));
-            boolean sized = between(known.keySize, 1, 4) && (between(known.valueSize, 0, 8) || known.valueSize == 255);
+            boolean sized = between(known.keySize, 1, 4)
+                    && (between(known.valueSize, 0, 8) || known.valueSize == 255);
             if (!sized || place + known.size() > f.bytes.length()) {
                 break;
             }

@@ -143,6 +143,8 @@ public final class PutTest {
             x.open(true);
             Check.mergeAll(x);
             c.is("merged to two", x.files(), 2);
+            c.is("hint of the first", x.file(0, 4), 34);
+            c.is("hint of the second", x.file(1, 4), 16);
             for (int i = 0; i < 7; i++) {
                 c.is("get(" + i + ")", x.get(i, 1), 100 * round + i + (i < 6 ? 14 : 7));
             }
