@@ -18,12 +18,29 @@ final class Check {
 
     private int wrong;
     private int looked;
+    private String sentence = "";
+
+    /** The sentence of the document that the next answers are held against. */
+    void says(String words) {
+        sentence = "\"" + words + "\": ";
+    }
+
+    private void tell(String words) {
+        wrong++;
+        System.out.println(sentence + words);
+    }
 
     void is(String call, long got, long due) {
         looked++;
         if (got != due) {
-            wrong++;
-            System.out.println(call + " answered " + got + ", due is " + due);
+            tell(call + " answered " + got + ", due is " + due);
+        }
+    }
+
+    void is(String call, String got, String due) {
+        looked++;
+        if (!got.equals(due)) {
+            tell(call + " answered\n" + got + "\ndue is\n" + due);
         }
     }
 
@@ -35,12 +52,10 @@ final class Check {
         looked++;
         try {
             Object got = body.run();
-            wrong++;
-            System.out.println(call + " answered " + got + ", due is throws." + due.getSimpleName());
+            tell(call + " answered " + got + ", due is throws." + due.getSimpleName());
         } catch (RuntimeException e) {
             if (e.getClass() != due) {
-                wrong++;
-                System.out.println(call + " threw " + e + ", due is throws." + due.getSimpleName());
+                tell(call + " threw " + e + ", due is throws." + due.getSimpleName());
             }
         }
     }
@@ -116,6 +131,19 @@ final class Check {
         AppendStore x = new AppendStore();
         fill(x, 0, 30);
         return x;
+    }
+
+    /** Puts one value with a record of so many bytes (9 to 20). */
+    static void putRecord(AppendStore x, long key, int bytes) {
+        int keySize = bytes > 17 ? bytes - 16 : 1;
+        x.put(key, keySize, 0, bytes - 8 - keySize);
+    }
+
+    /** Puts values for the keys 0 to 4, with records of so many bytes together (45 to 100). */
+    static void putFive(AppendStore x, int bytes) {
+        for (int i = 0; i < 5; i++) {
+            putRecord(x, i, (bytes + i) / 5);
+        }
     }
 
     /** Spoils the first bytes of a file or of a hint until they are the wanted ones. */

@@ -3,9 +3,11 @@ public final class FilesTest {
     public static void main(String[] args) {
         Check c = new Check();
         counts(c);
+        shortestRecords(c);
         wrongFiles(c);
         octets(c);
         spoils(c);
+        closedFiles(c);
         c.end();
     }
 
@@ -40,6 +42,48 @@ public final class FilesTest {
         x.lose(0);
         c.is("hint when closed", x.file(4, 4), 34);
         c.is("octet when closed", x.octet(4, 5, true), 20);
+    }
+
+    /** As many records as a file can have. */
+    private static void shortestRecords(Check c) {
+        AppendStore x = new AppendStore();
+        for (int i = 0; i < 11; i++) {
+            x.put(i, 1, 0, 0);
+        }
+        c.is("files()", x.files(), 1);
+        c.is("bytes of eleven records", x.file(0, 1), 99);
+        c.is("live bytes of eleven records", x.file(0, 3), 99);
+        c.is("delete", x.delete(10, 1), true);
+        c.is("live bytes of ten", x.file(0, 3), 90);
+        c.is("a tombstone is not live", x.file(1, 3), 0);
+        c.is("open", x.open(false), 10);
+        c.is("live bytes of ten when opened", x.file(0, 3), 90);
+        c.is("merge", x.merge(12), true);
+        c.is("live bytes of the copies", x.file(0, 3), 90);
+        c.is("files() after", x.files(), 1);
+    }
+
+    private static void closedFiles(Check c) {
+        c.says("how many are of live records (0 when closed)");
+        AppendStore x = new AppendStore();
+        Check.fill(x, 0, 6);
+        c.is("live when open", x.file(0, 3), 85);
+        c.is("live in the active file", x.file(1, 3), 17);
+        x.lose(100);
+        c.is("live when closed", x.file(0, 3), 0);
+        c.is("live in what was the active file", x.file(1, 3), 0);
+        c.is("number when closed", x.file(1, 0), 2);
+        c.is("bytes when closed", x.file(1, 1), 17);
+        c.is("synced when closed", x.file(1, 2), 17);
+        c.is("files() when closed", x.files(), 2);
+        x.open(false);
+        c.is("live when open again", x.file(0, 3), 85);
+        c.says("there is no such file or what");
+        c.refuses(Check.ARGUMENT, "file(2, 0)", () -> x.file(2, 0));
+        c.refuses(Check.ARGUMENT, "file(1, 5)", () -> x.file(1, 5));
+        x.lose(0);
+        c.refuses(Check.ARGUMENT, "file(2, 0) when closed", () -> x.file(2, 0));
+        c.refuses(Check.ARGUMENT, "file(1, -1) when closed", () -> x.file(1, -1));
     }
 
     private static void wrongFiles(Check c) {
