@@ -494,48 +494,39 @@ public final class AppendStore {
 
         /** Finds out anew what records there are, as opening does. */
         void learn(boolean hints) {
-            recordCount = 0;
-            if (hints && hintIsRight()) {
-                learnFromHint();
-            } else {
+            if (!hints || !learnFromHint()) {
                 learnFromBytes();
             }
             syncAll();
         }
 
-        private boolean hintIsRight() {
+        /** False when the hint does not fit the file: what was noted until then counts for nothing. */
+        private boolean learnFromHint() {
             int end = hint.size() - Layout.SUM;
             if (end < 0 || hint.number(end, Layout.SUM) != hint.sum(0, end)) {
                 return false;
             }
+            recordCount = 0;
             int place = 0;
-            int next = 0;
-            for (int i = 0; i < end; i = next) {
-                int keySize = hint.at(i + Layout.ENTRY_KEY_SIZE_AT);
-                int valueSize = hint.at(i + Layout.ENTRY_VALUE_SIZE_AT);
-                next = i + Layout.ENTRY_HEAD + keySize;
-                if (!Layout.isKeySize(keySize) || !Layout.isValueSize(valueSize) || next > end
-                        || hint.at(i + Layout.ENTRY_PLACE_AT) != place) {
+            int entry = 0;
+            for (int i = 0; i < Layout.MOST_RECORDS && entry < end; i++) {
+                int keySize = hint.at(entry + Layout.ENTRY_KEY_SIZE_AT);
+                int valueSize = hint.at(entry + Layout.ENTRY_VALUE_SIZE_AT);
+                if (!Layout.isKeySize(keySize) || !Layout.isValueSize(valueSize)
+                        || hint.at(entry + Layout.ENTRY_PLACE_AT) != place) {
                     return false;
                 }
+                long rank = Key.rank(hint.number(entry + Layout.ENTRY_HEAD, keySize), keySize);
+                note(place, rank, valueSize, null);
                 place += Layout.recordBytes(keySize, valueSize);
+                entry += Layout.ENTRY_HEAD + keySize;
             }
-            return place == bytes.size();
-        }
-
-        private void learnFromHint() {
-            int end = hint.size() - Layout.SUM;
-            int next = 0;
-            for (int i = 0; i < end; i = next) {
-                int keySize = hint.at(i + Layout.ENTRY_KEY_SIZE_AT);
-                next = i + Layout.ENTRY_HEAD + keySize;
-                long rank = Key.rank(hint.number(i + Layout.ENTRY_HEAD, keySize), keySize);
-                note(hint.at(i + Layout.ENTRY_PLACE_AT), rank, hint.at(i + Layout.ENTRY_VALUE_SIZE_AT), null);
-            }
+            return entry == end && place == bytes.size();
         }
 
         /** Cuts the file off where no sound record is. */
         private void learnFromBytes() {
+            recordCount = 0;
             int place = 0;
             for (int i = 0; i < Layout.MOST_RECORDS; i++) {
                 int size = soundSize(place);

@@ -8,6 +8,7 @@ public final class HintTest {
         rightSum(c);
         forgedEntries(c);
         moreThanItsEntries(c);
+        moreThanElevenEntries(c);
         keysOfEntries(c);
         cutFile(c);
         noHint(c);
@@ -50,6 +51,7 @@ public final class HintTest {
         for (int i = 0; i < 11; i++) {
             c.is("place of entry " + i, x.octet(0, 6 * i + 4, true), 9 * i);
         }
+        x.spoil(0, 0, false, 1);
         c.is("open with it", x.open(true), 11);
         c.is("the last key's place", x.key(10, 3), 90);
     }
@@ -156,6 +158,31 @@ public final class HintTest {
         Check.forge(y, 0, true, Check.hint(0, 0, 1, 8, 0, 1, 0, 0, 1, 1, 17, 2, 0, 0, 1, 0, 27, 3));
         y.spoil(0, 0, false, 1);
         c.is("entries for the whole file, and one more", y.open(true), 0);
+    }
+
+    /** No file has more than eleven records, but a hint may have room for eleven entries and more. */
+    private static void moreThanElevenEntries(Check c) {
+        c.says("places and sizes of records one behind the other, from the beginning of the file to its end");
+        int[] entries = {};
+        for (int i = 0; i < 11; i++) {
+            entries = Check.join(entries, Check.row(0, 0, 1, i < 10 ? 0 : 1, 9 * i, i));
+        }
+        int[] more = Check.join(entries, Check.row(0, 0, 1, 0));
+        c.is("eleven entries for the whole file, and four bytes more", openTen(more, 0), 10);
+        c.is("the same, and the file is spoilt", openTen(more, 1), 0);
+    }
+
+    /** Opens a file of 100 bytes, ten records, whose hint is forged and whose first byte is spoilt. */
+    private static int openTen(int[] entries, int bits) {
+        AppendStore x = new AppendStore();
+        for (int i = 0; i < 10; i++) {
+            x.put(256 + i, 2, 0, 0);
+        }
+        x.open(false);
+        x.merge(10);
+        Check.forge(x, 0, true, Check.hint(entries));
+        x.spoil(0, 0, false, bits);
+        return x.open(true);
     }
 
     private static void keysOfEntries(Check c) {
